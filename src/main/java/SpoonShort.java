@@ -68,10 +68,10 @@ public final class SpoonShort {
     private final Told told = new Told();
     private final Told[] images = {new Told(), new Told(), new Told()};
     private final Row imaged = new Row(IMAGES);
-    private final Reader reader = new Reader(told.tape);
+    private final Reader reader = new Reader();
     private final Deeds deeds = new Deeds();
     private final Rounds rounds = new Rounds();
-    private final Evenings evenings = new Evenings(rounds);
+    private final Evenings evenings = new Evenings();
     private final Odds odds = new Odds();
     private final Looks lookers = new Looks();
 
@@ -114,7 +114,7 @@ public final class SpoonShort {
             told.tape.clear();
             return MISSING;
         }
-        reader.read(sort);
+        reader.read(told.tape, sort);
         told.tape.clear();
         told.fault = reader.fault;
         told.place = reader.place;
@@ -587,7 +587,7 @@ public final class SpoonShort {
 
         void fill(int length, int value) {
             size = Math.max(0, Math.min(length, items.length));
-            Arrays.fill(items, 0, size, value);
+            Arrays.fill(items, value);
         }
 
         void swap(int one, int other) {
@@ -989,7 +989,7 @@ public final class SpoonShort {
         private static final int GREATEST_KIND = MOST_KINDS - 1;
         private static final int GREATEST_PERSON = MOST_PEOPLE - 1;
 
-        private final Row tape;
+        private final Row tape = new Row(TAPE_BYTES);
         private final Sheet sheet = new Sheet();
         private final Row numbers = new Row(TAPE_BYTES);
         private final Row places = new Row(TAPE_BYTES);
@@ -1003,11 +1003,8 @@ public final class SpoonShort {
         private int greatestTold;
         private int greatestKindTold;
 
-        Reader(Row tape) {
-            this.tape = tape;
-        }
-
-        void read(int sort) {
+        void read(Row bytes, int sort) {
+            tape.copy(bytes);
             sheet.clear();
             next = 0;
             broken = false;
@@ -1431,6 +1428,46 @@ public final class SpoonShort {
             }
         }
 
+        void copy(Deal from) {
+            held.copy(from.held);
+            sizes.copy(from.sizes);
+            lanes.copy(from.lanes);
+            heads.copy(from.heads);
+            lengths.copy(from.lengths);
+            people = from.people;
+            alike = from.alike;
+            kinds = from.kinds;
+            heapLane = from.heapLane;
+            awayLane = from.awayLane;
+        }
+
+        // Of two deals of one table: lengths first, as they tell most pairs apart.
+        boolean liesAs(Deal other) {
+            for (int p = 0; p <= people; p++) {
+                if (waitsFor(p) != other.waitsFor(p)) {
+                    return false;
+                }
+            }
+            for (int at = 0; at < people * MOST_KINDS; at++) {
+                if (held.get(at) != other.held.get(at)) {
+                    return false;
+                }
+            }
+            for (int p = 0; p <= people; p++) {
+                for (int i = 0; i < waitsFor(p); i++) {
+                    if (waiting(p, i) != other.waiting(p, i)) {
+                        return false;
+                    }
+                }
+            }
+            return true;
+        }
+
+        private int waiting(int person, int i) {
+            int lane = laneTo(person);
+            return lanes.get(lane * MOST_CARDS + (heads.get(lane) + i) % MOST_CARDS);
+        }
+
         int holdsCards(int person) {
             return sizes.get(person);
         }
@@ -1656,13 +1693,19 @@ public final class SpoonShort {
         private final Deal deal = new Deal();
         private final Row handed = new Row(MOST_PEOPLE);
         private final Table mended = new Table();
+        // How all lay at an earlier tenth, NONE as long as there is no such one.
+        private final Deal earlier = new Deal();
+        private final Row earlierHanded = new Row(MOST_PEOPLE);
+        private int earlierTenth;
         private int first;
         private int tenth;
 
         void play(Table t, Row cards, int until) {
             int people = t.people();
+            int samePaces = samePacesEach(t);
             deal.start(t, cards);
             handed.fill(people, 0);
+            earlierTenth = NONE;
             tenth = 0;
             first = deal.firstAlike();
             while (first == NONE && tenth < until) {
@@ -1672,6 +1715,39 @@ public final class SpoonShort {
                         first = p;
                     }
                 }
+                if (first == NONE && samePaces > 0 && tenth % samePaces == 0) {
+                    leap(until);
+                }
+            }
+        }
+
+        // By how many tenths it is the same PEOPLE again who take.
+        private static int samePacesEach(Table t) {
+            int all = 1;
+            for (int p = 0; p < t.people(); p++) {
+                int once = all;
+                for (int times = 1; times < t.of(p, PACE) && !t.goesInto(p, PACE, all); times++) {
+                    all += once;
+                }
+            }
+            return all;
+        }
+
+        // Where all lie as they lay before, it goes on as it went since: that often as may be it need not be played.
+        private void leap(int until) {
+            int length = tenth - earlierTenth;
+            if (earlierTenth > 0 && length > 0 && deal.liesAs(earlier)) {
+                int times = (until - tenth) / length;
+                for (int p = 0; p < handed.size(); p++) {
+                    handed.add(p, times * (handed.get(p) - earlierHanded.get(p)));
+                }
+                tenth += times * length;
+            }
+            // Later and later ones, so that one of them is far enough on and long enough ago.
+            if (earlierTenth == NONE || tenth >= 2 * earlierTenth) {
+                earlier.copy(deal);
+                earlierHanded.copy(handed);
+                earlierTenth = tenth;
             }
         }
 
@@ -1749,7 +1825,7 @@ public final class SpoonShort {
     private static final class Evenings {
         private static final int MOST_EVENING_ROUNDS = 100;
 
-        private final Rounds rounds;
+        private final Rounds rounds = new Rounds();
         private final Row pack = new Row(MOST_CARDS);
         private final Row firsts = new Row(MOST_ROUNDS);
         private final Row tenths = new Row(MOST_ROUNDS);
@@ -1761,10 +1837,6 @@ public final class SpoonShort {
         private int ended;
         private int winner;
         private int firstOut;
-
-        Evenings(Rounds rounds) {
-            this.rounds = rounds;
-        }
 
         Row shuffledBy(Table t, int seed) {
             x = seed;

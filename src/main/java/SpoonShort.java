@@ -1016,7 +1016,7 @@ public final class SpoonShort {
             for (int line = 0; line < TAPE_BYTES && token != END && !broken; line++) {
                 readLine(sort);
             }
-            if (sort == TABLES && fault == 0 && !stands()) {
+            if (sort == TABLES && !broken && !stands()) {
                 note(4, tape.size());
             }
         }
@@ -1304,8 +1304,9 @@ public final class SpoonShort {
             }
         }
 
+        // All but breakOff() note FAULTS in the order of their places, of one place the least first.
         private void note(int kind, int at) {
-            if (fault == 0 || at < place || at == place && kind < fault) {
+            if (fault == 0) {
                 fault = kind;
                 place = at;
             }

@@ -58,6 +58,8 @@ public final class OddsTest {
         }
         x = with("kinds 5;copies 1;alike 2;", "hold 0 1;");
         Check.due("all starved", x.unseen(0, 0, 2), 31);
+        x = with("kinds 5;copies 4;alike 3;", "hold 0 1 1;gone 0 1 2 3 3 4 4 4;");
+        Check.due("just enough of 0, 1, 2", x.unseen(0, 0, 2), 24);
     }
 
     private static void fraction(String name, long n, long d, long wantN, long wantD) {
@@ -263,6 +265,11 @@ public final class OddsTest {
                 Check.due("unseen " + k, x.unseen(0, 0, 10 + k), hand.unseen[k]);
             }
             String name = t.text() + text;
+            int starved = 0;
+            for (int k = 0; k < t.kinds; k++) {
+                starved |= Collections.frequency(past, k) > t.copies - t.alike ? 1 << k : 0;
+            }
+            Check.due("starved " + name, x.unseen(0, 0, 2), starved);
             Check.due(name, x.unseen(0, 0, 1), left.size());
             for (int n = 0; n <= 4; n++) {
                 withinByChance(name, x, hand, n, t.kinds);

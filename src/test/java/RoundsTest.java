@@ -15,6 +15,7 @@ public final class RoundsTest {
         lawsOneByOne();
         refilled();
         byChance();
+        thatNeverEnd();
         shuffles();
         evenings();
         luck();
@@ -186,6 +187,38 @@ public final class RoundsTest {
         }
     }
 
+    /** Rounds that go on long enough to come back to where they were, at all kinds of tenths. */
+    private static void thatNeverEnd() {
+        Random r = new Random(10);
+        int many = 0;
+        for (int i = 0; i < 20000 && many < 500; i++) {
+            Naive t = Naive.byChance(r, i % 4 == 0 ? 13 : 4, 4);
+            List<Integer> heap = t.pack();
+            Collections.shuffle(heap, r);
+            int least = t.people.size() * t.alike + 1;
+            heap = new ArrayList<>(heap.subList(0, Math.min(heap.size(), least + r.nextInt(6))));
+            int tenth = 1 + r.nextInt(2000);
+            Naive.Round round = new Naive.Round(t, heap, tenth);
+            if (round.first != NONE) {
+                continue;
+            }
+            many++;
+            SpoonShort x = with(t.text(), Naive.cardsText("cards", heap));
+            for (int p = 0; p < t.people.size(); p++) {
+                Check.due("waits", x.behind(0, 0, tenth, p, NONE), round.lie.ways.get(p).size());
+                for (int kind = 0; kind < t.kinds; kind++) {
+                    int want = Collections.frequency(round.lie.hands.get(p), kind);
+                    Check.due("holds behind " + tenth + t.text() + heap, x.behind(0, 0, tenth, p, kind), want);
+                }
+            }
+            round = new Naive.Round(t, heap, 2000);
+            for (int p = 0; p < t.people.size(); p++) {
+                Check.due("handed on", x.round(0, 0, 20 + p), round.handed[p]);
+            }
+        }
+        Check.due("there are such", many == 500, true);
+    }
+
     private static void behind(SpoonShort x, Naive t, List<Integer> heap, int tenth) {
         Naive.Round round = new Naive.Round(t, heap, tenth);
         for (int p = 0; p < t.people.size(); p++) {
@@ -336,6 +369,7 @@ public final class RoundsTest {
                     seldomest = lasts;
                 }
             }
+            x = Check.fine(0, t.text());
             Check.due("better", x.otherwise(0, seed, k, person, sort, NONE, false), best);
             Check.due("better, first", x.otherwise(0, seed, k, person, sort, NONE, true), best);
         }

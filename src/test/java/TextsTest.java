@@ -96,6 +96,11 @@ public final class TextsTest {
         Check.faulty(x, 1, "123", 1, 0);
         Check.faulty(x, 1, "Cards 0;", 1, 0);
         Check.faulty(x, 1, "cardS 0;", 1, 0);
+        Check.faulty(x, 1, "cardsz 0;", 1, 0);
+        Check.faulty(x, 1, "cards{0;", 1, 5);
+        Check.faulty(x, 1, "cards`0;", 1, 5);
+        Check.faulty(x, 1, "cards 0:;", 1, 7);
+        Check.faulty(x, 1, "cards 0/;", 1, 7);
         Check.faulty(x, 1, "cards 0#;", 1, 7);
         Check.faulty(x, 1, "cards\t0;", 1, 5);
         Check.faulty(x, 1, "cards\r0;", 1, 5);

@@ -16,21 +16,30 @@ public final class AnyInputTest {
         {"frame 0;", "frame 5 1;", "frame 6 1 0;", "frame 7 0 1 2 3 4 5;", "frame 98;", "frame 99 5;"},
     };
 
+    // What later calls answer is free.
+    private static final int MOST_CALLS = 512;
+    private static int used;
+
     public static void main(String[] args) {
         long calls = 0;
-        for (int seed = 0; seed < 300; seed++) {
+        for (int seed = 0; seed < 400; seed++) {
             SpoonShort x = new SpoonShort();
             SpoonShort y = new SpoonShort();
             Random r = new Random(seed);
             Random s = new Random(seed);
+            used = 0;
             if (seed % 4 != 0) {
                 tellFive(x);
                 tellFive(y);
+                used = 60;
             }
-            for (int i = 0; i < 500; i++) {
-                Check.due("run " + seed + " call " + i, call(x, r), call(y, s));
-                calls++;
+            while (used < MOST_CALLS - 32) {
+                long got = call(x, r);
+                int before = used;
+                Check.due("run " + seed + " call " + before, got, call(y, s));
+                used = before;
             }
+            calls += used;
         }
         System.out.println(calls + " calls");
         Check.finish();
@@ -69,9 +78,12 @@ public final class AnyInputTest {
 
     private static long call(SpoonShort x, Random r) {
         int what = r.nextInt(44) + 4;
+        used++;
         if (what < 12) {
             int sort = r.nextInt(30) == 0 ? any(r) : r.nextInt(5);
-            Check.tape(x, text(r, sort));
+            String text = text(r, sort);
+            Check.tape(x, text);
+            used += 3 + text.length() / 20;
             return x.text(sort, r.nextBoolean() ? SpoonShort.NONE : one(r));
         }
         return what < 30 ? told(x, r, what) : asked(x, r, what);

@@ -1,9 +1,14 @@
 import java.nio.charset.StandardCharsets;
 import java.util.Arrays;
+import java.util.function.IntPredicate;
+import java.util.function.IntToLongFunction;
 
 /** What all tests here use: answers that are due, and texts put on the tape. */
 final class Check {
     static final int NONE = SpoonShort.NONE;
+    /** Where a sum or a product with a number would wrap around. */
+    private static final int[] FAR_OFF = {Integer.MIN_VALUE, Integer.MIN_VALUE + 1, Integer.MIN_VALUE + 10, -1000000000, 1 << 28,
+        1 << 29, 1 << 30, (1 << 30) + 1, 715827883, 1431655766, -1431655765, Integer.MAX_VALUE - 1, Integer.MAX_VALUE};
     private static int right = 0;
     private static int wrong = 0;
 
@@ -23,6 +28,24 @@ final class Check {
 
     static void due(String call, boolean got, boolean want) {
         due(call, got ? 1 : 0, want ? 1 : 0);
+    }
+
+    /** For each number for which there is nothing, this is the answer: those near by, on both sides, and those far off. */
+    static void none(String call, long want, IntPredicate there, IntToLongFunction answer) {
+        for (int number = -24; number <= 160; number++) {
+            if (!there.test(number)) {
+                due(call + " for " + number, answer.applyAsLong(number), want);
+            }
+        }
+        for (int number : FAR_OFF) {
+            if (!there.test(number)) {
+                due(call + " for " + number, answer.applyAsLong(number), want);
+            }
+        }
+    }
+
+    static IntPredicate from(int least, int most) {
+        return number -> number >= least && number <= most;
     }
 
     static void finish() {
@@ -62,6 +85,15 @@ final class Check {
         due("fault(0) of: " + text, x.fault(0), fault);
         due("fault(1) of: " + text, x.fault(1), place);
         due("the tape behind: " + text, x.end(1), NONE);
+    }
+
+    /** A text is refused by a new object. */
+    static void refused(int sort, String text, int fault, int place) {
+        faulty(new SpoonShort(), sort, text, fault, place);
+    }
+
+    static String many(String text, int times) {
+        return text.repeat(times);
     }
 
     /** A text is read without a FAULT, as one in a new object. */

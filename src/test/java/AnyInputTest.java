@@ -1,3 +1,5 @@
+import java.util.Collections;
+import java.util.List;
 import java.util.Random;
 
 /** Any call with any arguments in any state: nothing may ever throw, and the same calls give the same answers. */
@@ -42,7 +44,43 @@ public final class AnyInputTest {
             calls += used;
         }
         System.out.println(calls + " calls");
+        askingChangesNothing();
         Check.finish();
+    }
+
+    /** What is asked is answered as by a new object that has been told the same and was asked nothing yet. */
+    private static void askingChangesNothing() {
+        for (int seed = 0; seed < 60; seed++) {
+            SpoonShort x = new SpoonShort();
+            tellFive(x);
+            tellMore(x, new Random(seed));
+            Random r = new Random(1000 + seed);
+            for (int i = 0; i < 300; i++) {
+                int call = 15 + r.nextInt(33);
+                if (call == 27 || call == 28) {
+                    continue;
+                }
+                SpoonShort y = new SpoonShort();
+                tellFive(y);
+                tellMore(y, new Random(seed));
+                long numbers = r.nextLong();
+                Random a = new Random(numbers);
+                Random b = new Random(numbers);
+                long got = call < 30 ? told(x, a, call) : asked(x, a, call);
+                Check.due("of a used object, call " + call, got, call < 30 ? told(y, b, call) : asked(y, b, call));
+            }
+        }
+    }
+
+    private static void tellMore(SpoonShort x, Random r) {
+        Naive t = Naive.byChance(r, 4, 4);
+        Check.due("table", Check.tell(x, 0, t.text()), 1);
+        List<Integer> pack = t.pack();
+        Collections.shuffle(pack, r);
+        Check.due("heap", Check.tell(x, 1, Naive.cardsText("cards", pack)), 1);
+        Check.due("hand", Check.tell(x, 3, Naive.cardsText("hold", pack.subList(0, t.alike))), 1);
+        Check.due("book", Check.tell(x, 2, "reach 1;pass 2;take 0;reach 0;feint 1;reach 1;"), 1);
+        Check.due("film", Check.tell(x, 4, "frame 0 1;frame 9;frame 12 1 0;"), 1);
     }
 
     private static void tellFive(SpoonShort x) {

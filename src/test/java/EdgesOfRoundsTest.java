@@ -61,6 +61,7 @@ public final class EdgesOfRoundsTest {
         answersOfAnEvening();
         luckOfOneRound();
         luckOfRounds();
+        seedGoesOn();
         otherwiseValues();
         otherwiseAsTold();
         otherwiseByLaw();
@@ -898,6 +899,41 @@ public final class EdgesOfRoundsTest {
             Check.due("all NEVER END", z.luck(0, 1, k, 0), k);
             Check.due("nobody is FIRST", z.luck(0, 1, k, 10), 0);
             Check.due("nobody is LAST", z.luck(0, 1, k, 21), 0);
+        }
+    }
+
+    // "each SHUFFLED anew (x goes on)": the second ROUND is the first one by x as it is behind the first.
+    private static void seedGoesOn() {
+        String table = "kinds 6;alike 2;person 1 2 3 4;person 2 3 1 9;person 1 1 9 0;";
+        for (int seed = -5; seed <= 5; seed++) {
+            int[] x = new int[21];
+            x[1] = seed;
+            for (int k = 2; k <= 20; k++) {
+                x[k] = x[k - 1];
+                for (int place = 23; place >= 1; place--) {
+                    x[k] = x[k] * 1103515245 + 12345;
+                }
+            }
+            SpoonShort y = Check.fine(0, table);
+            for (int what : new int[] {0, 10, 11, 12, 20, 21, 22}) {
+                int all = 0;
+                for (int k = 1; k <= 20; k++) {
+                    all += y.luck(0, x[k], 1, what);
+                    Check.due("of the first " + k, y.luck(0, seed, k, what), all);
+                }
+            }
+            // The one who is LAST by it is OUT; all others go on by x as it is then.
+            SpoonShort z = Check.fine(0, table);
+            int out = z.evening(0, seed, 2);
+            for (int p = 0; p < 3; p++) {
+                Check.due("OUT first", z.luck(0, seed, 1, 20 + p), p == out ? 1 : 0);
+            }
+            String[] people = {"person 1 2 3 4;", "person 2 3 1 9;", "person 1 1 9 0;"};
+            people[out] = "";
+            SpoonShort two = Check.fine(0, "kinds 6;alike 2;" + people[0] + people[1] + people[2]);
+            int least = out == 0 ? 1 : 0;
+            boolean leastIsLast = two.luck(0, x[2], 1, 20) == 1;
+            Check.due("who WINS", z.evening(0, seed, 0), leastIsLast ? 3 - out - least : least);
         }
     }
 

@@ -2,7 +2,9 @@ import java.math.BigInteger;
 import java.util.ArrayList;
 import java.util.Arrays;
 import java.util.Collections;
+import java.util.HashMap;
 import java.util.List;
+import java.util.Map;
 import java.util.Random;
 
 /** Promises 21 to 26: what can be known of a hand at a table. */
@@ -187,6 +189,7 @@ public final class OddsTest {
     }
 
     private static final class Hand {
+        private static final Map<String, Long> GOOD = new HashMap<>();
         final int[] held;
         final int[] unseen;
         final int alike;
@@ -210,10 +213,21 @@ public final class OddsTest {
             return all;
         }
 
+        /** Each hand once, kept by all that it depends on. */
         long good(int n) {
             if (has()) {
                 return orders(n);
             }
+            String name = n + Arrays.toString(held) + Arrays.toString(unseen) + alike;
+            Long known = GOOD.get(name);
+            if (known == null) {
+                known = goodOfAll(n);
+                GOOD.put(name, known);
+            }
+            return known;
+        }
+
+        private long goodOfAll(int n) {
             long all = 0;
             for (int k = 0; k < unseen.length && n > 0; k++) {
                 if (unseen[k] > 0) {
@@ -271,7 +285,7 @@ public final class OddsTest {
             }
             Check.due("starved " + name, x.unseen(0, 0, 2), starved);
             Check.due(name, x.unseen(0, 0, 1), left.size());
-            for (int n = 0; n <= 4; n++) {
+            for (int n = 0; n <= 6; n++) {
                 withinByChance(name, x, hand, n, t.kinds);
             }
             for (int k = 0; k < t.kinds; k++) {
